@@ -10,6 +10,9 @@ public final class CacheLevels {
   private static final int FIRST_WAYS = 2;
   private static final int SECOND_WAYS = 4;
 
+  // The second cache is the only group of its bank.
+  private static final int SHARED = 0;
+
   private static final int KEEP_ALL = 1;
   private static final int KEEP_NONE = 2;
 
@@ -136,7 +139,7 @@ public final class CacheLevels {
     if (other != NONE) {
       return first.versionAt(other);
     }
-    int shared = second.find(0, line);
+    int shared = second.find(SHARED, line);
     return shared != NONE ? second.versionAt(shared) : versions.inMemory(line);
   }
 
@@ -158,7 +161,7 @@ public final class CacheLevels {
   }
 
   public int owner(int line) {
-    int slot = second.find(0, line);
+    int slot = second.find(SHARED, line);
     return slot == NONE ? NONE : second.ownerAt(slot);
   }
 
@@ -220,7 +223,7 @@ public final class CacheLevels {
   }
 
   private static int groupOf(int core) {
-    return core == NONE ? 0 : core;
+    return core == NONE ? SHARED : core;
   }
 
   private void tally(int core, int what) {
@@ -256,7 +259,7 @@ public final class CacheLevels {
 
   /** What a first cache wrote goes to the second cache's line, whose place in the order stays. */
   private void writeDown(int line, int version) {
-    int slot = second.find(0, line);
+    int slot = second.find(SHARED, line);
     if (slot == NONE) {
       versions.writeBack(line, version);
     } else {
@@ -266,7 +269,7 @@ public final class CacheLevels {
 
   /** Steps 3 and 4 of an access; the access's answer. */
   private int bring(int core, int line) {
-    int slot = second.find(0, line);
+    int slot = second.find(SHARED, line);
     int version = slot != NONE ? second.versionAt(slot) : versions.inMemory(line);
     boolean written = false;
     if (slot == NONE) {
@@ -280,7 +283,7 @@ public final class CacheLevels {
       second.useLast(slot);
     }
     // With keeping 1 a line that could not come into the second cache is not held by the first.
-    if (keeping != KEEP_ALL || second.find(0, line) != NONE) {
+    if (keeping != KEEP_ALL || second.find(SHARED, line) != NONE) {
       makeRoomInFirst(core, line);
       first.put(first.placeOf(core, line), line, version, written, core);
     }
@@ -297,11 +300,12 @@ public final class CacheLevels {
       }
     }
     if (keeping == KEEP_NONE) {
-      second.drop(second.find(0, line));
+      second.drop(second.find(SHARED, line));
     }
     int version = versions.makeNext(line);
     int slot = first.find(core, line);
     if (slot == NONE) {
+      // Keeping 1 let no cache hold it, so that memory alone can have the new version.
       versions.writeBack(line, version);
     } else {
       first.rewrite(slot, version);
@@ -333,7 +337,7 @@ public final class CacheLevels {
       }
       return;
     }
-    int place = second.placeOf(0, line);
+    int place = second.placeOf(SHARED, line);
     if (second.ownedAt(place, core) >= most) {
       leaveSecond(second.oldestOwned(place, core));
     } else if (second.isFull(place)) {

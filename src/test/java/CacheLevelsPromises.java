@@ -413,6 +413,11 @@ public final class CacheLevelsPromises {
     run("5: held thrice", all, "0 w 1, 1 r 1", "32");
     due("5: one", all.flush(), 1);
     due("5: nothing lost by that", all.core(0, 5) + all.core(0, 6) + all.core(1, 6), 0);
+    CacheLevels gone = new CacheLevels(1, 1, 2, 1);
+    gone.quota(0, 1);
+    run("5: lost by a back invalidation", gone, "0 w 1, 0 w 2", "33");
+    due("5: only what is held", gone.flush(), 1);
+    due("5: both in memory", gone.memory(1) * 10 + gone.memory(2), 11);
   }
 
   // ---- promises 6 to 13
