@@ -1,12 +1,9 @@
 /** Each promise of the document: ordinary inputs, the edges that it names, and wrong inputs. */
-public final class CacheLevelsPromises {
-  private static final int NONE = CacheLevels.NONE;
+public final class CacheLevelsPromises extends Checks {
   private static final int[] ODD_INTS = {
     Integer.MIN_VALUE, Integer.MIN_VALUE + 1, -1000, -17, -16, -5, -4, -3, -2, -1, 0, 1, 2, 3, 4, 5,
     8, 9, 16, 17, 18, 1000, Integer.MAX_VALUE - 1, Integer.MAX_VALUE
   };
-
-  private static int wrong = 0;
 
   public static void main(String[] args) {
     promise1NewObject();
@@ -32,82 +29,7 @@ public final class CacheLevelsPromises {
     promise11Directory();
     promise12Core();
     promise13Count();
-    System.out.println(wrong == 0 ? "all answers are as due" : wrong + " answers are not as due");
-    if (wrong != 0) {
-      System.exit(1);
-    }
-  }
-
-  // ---- how the tests speak
-
-  private static void due(String what, Object got, Object want) {
-    if (!got.equals(want)) {
-      wrong++;
-      System.out.println(what + " answered " + got + ", due is " + want);
-    }
-  }
-
-  private static void dueThrow(String what, Class<?> want, Runnable call) {
-    Object got = "nothing thrown";
-    try {
-      call.run();
-    } catch (RuntimeException e) {
-      got = e.getClass();
-    }
-    due(what, got, want);
-  }
-
-  private static void dueIndex(String what, Runnable call) {
-    dueThrow(what, IndexOutOfBoundsException.class, call);
-  }
-
-  private static void dueArgument(String what, Runnable call) {
-    dueThrow(what, IllegalArgumentException.class, call);
-  }
-
-  /** Accesses written as "core r|w line", with the answers that are due. */
-  private static void run(String what, CacheLevels x, String accesses, String answers) {
-    StringBuilder got = new StringBuilder();
-    for (String access : accesses.split(", ")) {
-      String[] word = access.split(" ");
-      int kind = word[1].equals("w") ? 1 : 0;
-      got.append(x.access(Integer.parseInt(word[0]), Integer.parseInt(word[2]), kind));
-    }
-    due(what + ": " + accesses, got.toString(), answers);
-  }
-
-  /** A line as the face shows it: holds of each core, holds of the second, owner, memory, version. */
-  private static String see(CacheLevels x, int line) {
-    StringBuilder text = new StringBuilder();
-    for (int core = 0; core < x.count(4); core++) {
-      text.append(x.holds(core, line));
-    }
-    text.append(" ").append(x.holds(NONE, line));
-    text.append(" owner ").append(x.owner(line));
-    text.append(" memory ").append(x.memory(line));
-    text.append(" version ").append(x.version(0, line));
-    return text.toString();
-  }
-
-  /** The lines of a set, the one used last first. */
-  private static String order(CacheLevels x, int core, int set) {
-    StringBuilder text = new StringBuilder();
-    for (int k = 0; k < 99; k++) {
-      try {
-        text.append(k == 0 ? "" : " ").append(x.line(core, set, k));
-      } catch (IndexOutOfBoundsException e) {
-        return text.toString().trim();
-      }
-    }
-    return "no end";
-  }
-
-  private static String tallies(CacheLevels x, int core) {
-    StringBuilder text = new StringBuilder();
-    for (int what = 0; what < 8; what++) {
-      text.append(what == 0 ? "" : " ").append(x.core(core, what));
-    }
-    return text.toString();
+    end();
   }
 
   // ---- promise 1
