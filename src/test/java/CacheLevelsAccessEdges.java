@@ -72,6 +72,7 @@ public final class CacheLevelsAccessEdges extends Checks {
     linesBelowZeroShareSets();
     setsInTheOrderOfLastUse();
     versionsOfEachLine();
+    versionsOfLineZero();
   }
 
   /** "a line's set is line modulo the sets (not below 0)" */
@@ -124,6 +125,16 @@ public final class CacheLevelsAccessEdges extends Checks {
     x.flush();
     run("version: it goes on from memory's", x, "0 w 1", "3");
     due("version: it goes on", see(x, 1), "20 1 owner 0 memory 2 version 3");
+  }
+
+  /** "MEMORY has a VERSION of each line": of line 0, too, which is no sign of an unused place. */
+  private static void versionsOfLineZero() {
+    CacheLevels x = new CacheLevels(1, 0, 8, 16);
+    run("version: line 0", x, "0 w 0, 0 w 5, 0 w 0, 0 w 6, 0 w 0", "33131");
+    due("version: line 0", x.version(0, 0), 3);
+    due("version: others", x.version(0, 5) * 10 + x.version(0, 6), 11);
+    due("version: three go back", x.flush(), 3);
+    due("version: in memory", x.memory(0) * 100 + x.memory(5) * 10 + x.memory(6), 311);
   }
 
   // ---- the steps 1 to 5 of an access

@@ -92,6 +92,7 @@ public final class CacheLevelsEdges extends Checks {
     versionRefused();
     lineRefused();
     coreRefused();
+    coresThatWrapAround();
     countOfAnotherWhat();
   }
 
@@ -233,6 +234,27 @@ public final class CacheLevelsEdges extends Checks {
     dueUnchanged("core refused", x);
   }
 
+  /** "when there is no such core": nor one that, times the sets, wraps around to core 0 or 1. */
+  private static void coresThatWrapAround() {
+    for (int sets = 1; sets <= 8; sets *= 2) {
+      CacheLevels x = new CacheLevels(2, 0, sets, 1);
+      run("wrap: before", x, "0 w 0, 1 r 8", "33");
+      for (int shift = 28; shift < 32; shift++) {
+        for (int add = 0; add < 2; add++) {
+          int core = (1 << shift) + add;
+          dueIndex("wrap: access, core " + core, () -> x.access(core, 0, 1));
+          dueIndex("wrap: quota, core " + core, () -> x.quota(core, 0));
+          dueIndex("wrap: holds, core " + core, () -> x.holds(core, 0));
+          dueIndex("wrap: version, core " + core, () -> x.version(core, 0));
+          dueIndex("wrap: line, core " + core, () -> x.line(core, 0, 0));
+          dueIndex("wrap: core, core " + core, () -> x.core(core, 0));
+        }
+      }
+      due("wrap: nothing came of it", order(x, 0, 0) + " " + order(x, 1, 0), "0 8");
+      due("wrap: nothing counted", each(x, 0) + " " + x.version(0, 0), "1 1 1");
+    }
+  }
+
   /** "NONE for another what." */
   private static void countOfAnotherWhat() {
     CacheLevels x = twoCores();
@@ -342,6 +364,7 @@ public final class CacheLevelsEdges extends Checks {
     flushOfNothingWritten();
     flushOfLinesWrittenInBoth();
     flushOfTheSecondAlone();
+    flushOfNoLineThatIsGone();
     flushLeavesTheRest();
   }
 
@@ -390,6 +413,30 @@ public final class CacheLevelsEdges extends Checks {
     due("flush: full", caches(none), "[6w 5w] {4w@0 3w@0 2w@0 1w@0}");
     due("flush: both levels", none.flush(), 6);
     due("flush: all went back", none.memory(1) + none.memory(4) + none.memory(6), 3);
+  }
+
+  /** "All written lines go to memory": none that was written, but is held no more. */
+  private static void flushOfNoLineThatIsGone() {
+    CacheLevels left = new CacheLevels(1, 0, 1, 1);
+    left.quota(0, 0);
+    run("flush: left the first", left, "0 w 1, 0 w 2, 0 r 3, 0 r 4", "3333");
+    due("flush: left the first", backAndOver(left) + " " + left.flush(), "2 0 0");
+    CacheLevels lost = new CacheLevels(2, 2, 1, 1);
+    run("flush: lost by a write", lost, "0 w 1, 1 w 1", "33");
+    due("flush: lost by a write", backAndOver(lost) + " " + lost.flush(), "1 1 1");
+    CacheLevels back = new CacheLevels(1, 1, 2, 1);
+    back.quota(0, 1);
+    run("flush: lost by a back invalidation", back, "0 w 1, 0 r 2", "33");
+    due("flush: lost by a back invalidation", backAndOver(back) + " " + back.flush(), "1 0 0");
+    CacheLevels up = new CacheLevels(1, 2, 1, 1);
+    run("flush: out of the second", up, "0 w 1, 0 r 2, 0 r 3, 0 r 1", "3332");
+    due("flush: out of the second", backAndOver(up) + " " + up.flush(), "0 0 1");
+    CacheLevels again = new CacheLevels(1, 2, 1, 1);
+    run("flush: both full", again, "0 w 1, 0 w 2, 0 w 3, 0 w 4, 0 w 5, 0 w 6", "333333");
+    due("flush: both full", again.flush() * 10 + again.flush(), 60);
+    run("flush: then reads", again, "0 r 1, 0 r 2, 0 r 3, 0 r 4, 0 r 5, 0 r 6", "333333");
+    due("flush: then nothing is written", caches(again), "[6 5] {4@0 3@0 2@0 1@0}");
+    due("flush: then none goes back", again.flush() * 10 + again.count(0), 6);
   }
 
   private static void flushLeavesTheRest() {
