@@ -1,6 +1,6 @@
 /**
  * Each sentence of the document's terms that names a boundary case of an access (promise 2): one
- * test each, with the sentence above it. CacheLevelsEdges has the other promises.
+ * test each, the sentence above it or above its group. CacheLevelsEdges has the other promises.
  */
 public final class CacheLevelsAccessEdges extends Checks {
   public static void main(String[] args) {

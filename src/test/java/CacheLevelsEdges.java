@@ -1,7 +1,7 @@
 /**
  * Each sentence of the document that names a boundary case (too small, too large, empty, full, a
- * wrap-around, a refused call), one test each, with the sentence above it. What an access does with
- * the lines is in CacheLevelsAccessEdges.
+ * wrap-around, a refused call), one test each, the sentence above it or above its group. What an
+ * access does with the lines is in CacheLevelsAccessEdges.
  */
 public final class CacheLevelsEdges extends Checks {
   private static final int[] NO_CORE_OF_TWO = {LEAST, -2, 2, 3, 4, MOST};
