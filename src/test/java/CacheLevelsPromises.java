@@ -394,10 +394,10 @@ public final class CacheLevelsPromises extends Checks {
     }
     CacheLevels all = new CacheLevels(1, 1, 1, 1);
     all.bypass(Integer.MIN_VALUE, Integer.MAX_VALUE);
-    for (int line = 0; line < 511; line++) {
+    for (int line = 0; line < 510; line++) {
       all.access(0, -line, 1);
     }
-    due("8: the last of the most lines", all.memory(-510), 1);
+    due("8: the last of the most lines, by the last call", all.memory(-509), 1);
   }
 
   private static void promise9Line() {
